@@ -90,9 +90,7 @@ public final class FaceTest {
     }
 
     public static void main(String[] args) throws IOException {
-        Set<String> documented = documented(Files.readString(DOCUMENT));
-        due("methods of the document", documented.size(), 39);
-        due("methods", declared(), documented);
+        due("methods", declared(), documented(Files.readString(DOCUMENT)));
         checkMembers();
         checkWords(Files.readString(SOURCE));
         System.out.println(wrong == 0 ? "FaceTest: the face is as due" : "FaceTest: " + wrong + " faults");
